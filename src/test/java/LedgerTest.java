@@ -81,14 +81,14 @@ public final class LedgerTest {
         Checks.due("the other account: linePeriod(1, 6)", x.linePeriod(1, 6), UtilityRebiller.BAD_PERIOD);
     }
 
-    /** As many lines as an object can have in 512 calls: three items and six closings go before 495 reads, eight calls look. */
+    /** Close to the most lines that an object can have in 512 calls: 9 calls prepare, 495 read, 7 look. */
     private static void longLedger() {
         UtilityRebiller x = new UtilityRebiller();
         Checks.setTariff(x, 99, 99, 99);
         for (int period = 0; period < 6; period++) {
             x.close();
         }
-        // the first read of slot 0 fills period 0 by its mean, and slot 0 alone of the others
+        // a read of slot 0 fills the whole of period 0 as its mean, and slot 0 alone of the periods after it
         for (int n = 0; n < 495; n++) {
             Checks.due("read number " + n, x.read(1, 0, n % 2 == 0 ? 999 : 998), 6);
         }

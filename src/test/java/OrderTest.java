@@ -40,9 +40,12 @@ public final class OrderTest {
 
     /** With a least amount no line is 0, so that a 0 can only tell that there is no line. */
     private static void linePeriodFollowsLineAmount() {
-        UtilityRebiller x = new UtilityRebiller();
-        x.tariff(5, 1);
         for (int closed = 0; closed <= 6; closed++) {
+            UtilityRebiller x = new UtilityRebiller();
+            x.tariff(5, 1);
+            for (int n = 0; n < closed; n++) {
+                x.close();
+            }
             for (int account = -1; account <= 2; account++) {
                 for (int back = -1; back <= 8; back++) {
                     boolean line = account >= 0 && account <= 1 && back >= 0 && back < closed;
@@ -52,7 +55,6 @@ public final class OrderTest {
                             line ? closed - 1 - back : UtilityRebiller.BAD_PERIOD);
                 }
             }
-            x.close();
         }
     }
 }
