@@ -1,25 +1,46 @@
-/** Promise 1: no reads, no closed period, empty ledgers, all six items of the tariff 0. */
+/** Promise 1, one method for each of its cases. */
 public final class NewObjectTest {
     public static void main(String[] args) {
         noReads();
-        noClosedPeriodAndEmptyLedgers();
-        tariffOfZeros();
+        noClosedPeriod();
+        emptyLedgers();
+        allSixItemsZero();
         objectsShareNothing();
         Checks.end();
     }
 
+    /** "No reads". */
     private static void noReads() {
         UtilityRebiller x = new UtilityRebiller();
-        for (int account = 0; account < 2; account++) {
-            for (int interval = 0; interval < 48; interval++) {
-                Checks.due("new: usage(" + account + ", " + interval + ")", x.usage(account, interval), 0);
-                Checks.due("new: unread(" + account + ", " + interval + ")", x.unread(account, interval),
-                        UtilityRebiller.NO_READ);
+        for (int interval = 0; interval < 48; interval++) {
+            for (int account = 0; account < 2; account++) {
+                String at = "(" + account + ", " + interval + ")";
+                Checks.due("new: usage" + at, x.usage(account, interval), 0);
+                Checks.due("new: unread" + at, x.unread(account, interval), UtilityRebiller.NO_READ);
             }
         }
     }
 
-    private static void noClosedPeriodAndEmptyLedgers() {
+    /** "no closed period": the amounts follow the tariff of now, and all six can still be closed. */
+    private static void noClosedPeriod() {
+        UtilityRebiller x = new UtilityRebiller();
+        x.tariff(5, 1);
+        for (int period = 0; period < 6; period++) {
+            Checks.due("new: amount(0, " + period + ")", x.amount(0, period), 1000);
+            Checks.due("new: amount(1, " + period + ")", x.amount(1, period), 1000);
+        }
+        for (int period = 0; period < 6; period++) {
+            Checks.due("new: close() number " + period, x.close(), period);
+        }
+        UtilityRebiller y = new UtilityRebiller();
+        Checks.setTariff(y, 99, 99, 99, 99, 99, 99);
+        for (int interval = 0; interval < 48; interval++) {
+            Checks.due("new: read(0, " + interval + ", 999) bills nothing", y.read(0, interval, 999), 0);
+        }
+    }
+
+    /** "empty ledgers". */
+    private static void emptyLedgers() {
         UtilityRebiller x = new UtilityRebiller();
         for (int account = 0; account < 2; account++) {
             Checks.due("new: lines(" + account + ")", x.lines(account), 0);
@@ -30,18 +51,18 @@ public final class NewObjectTest {
                         UtilityRebiller.BAD_PERIOD);
             }
         }
-        Checks.due("new: close()", x.close(), 0);
     }
 
-    private static void tariffOfZeros() {
+    /** "all six items of the tariff 0": told by tariff, and by an amount in which each item would count. */
+    private static void allSixItemsZero() {
         UtilityRebiller x = new UtilityRebiller();
-        x.read(0, 0, 999);
-        for (int period = 0; period < 6; period++) {
-            Checks.due("new: amount(0, " + period + ")", x.amount(0, period), 0);
-            Checks.due("new: amount(1, " + period + ")", x.amount(1, period), 0);
-        }
+        Checks.readPeriod(x, 0, 0, 999, 999, 999, 999, 999, 999, 999, 999);
+        Checks.due("new, all read: amount(0, 0)", x.amount(0, 0), 0);
+        Checks.due("new, all read: amount(0, 5)", x.amount(0, 5), 0);
+        x.close();
+        Checks.due("new, all read, closed: lineAmount(0, 0)", x.lineAmount(0, 0), 0);
         for (int item = 0; item < 6; item++) {
-            Checks.due("new: tariff(" + item + ", 5)", x.tariff(item, 5), 0);
+            Checks.due("new: tariff(" + item + ", 99)", x.tariff(item, 99), 0);
         }
     }
 
