@@ -60,7 +60,7 @@ public final class FaceTest {
         }
         holds("the methods are " + open, open.equals(new TreeSet<>(Arrays.asList(METHODS))));
         for (Method m : UtilityRebiller.class.getDeclaredMethods()) {
-            holds(m + " bears the name of a public method",
+            holds(m + " does not bear a public method's name",
                     !Modifier.isPrivate(m.getModifiers()) || !openNames.contains(m.getName()));
         }
     }
@@ -74,6 +74,7 @@ public final class FaceTest {
             }
             if (!Modifier.isPrivate(how)) {
                 holds(f + " is public, static and final", how == (Modifier.PUBLIC | Modifier.STATIC | Modifier.FINAL));
+                holds(f + " is an int", f.getType() == int.class);
                 open.add(f.getName());
             }
         }

@@ -5,6 +5,7 @@ public final class TariffBoundaryTest {
         rateNotIn0To99();
         oldNumber();
         closedFromNowOn();
+        allSixClosed();
         Checks.end();
     }
 
@@ -70,6 +71,21 @@ public final class TariffBoundaryTest {
             Checks.due(closed + " closed: the first that is open", x.amount(0, closed), 8000);
             x.close();
             Checks.ledgerEnds(closed + " closed and one more", x, 1, closed - 1, 3000, closed, 8000);
+        }
+    }
+
+    /** "Else answers the item's old number": no sentence refuses a call because all six periods are closed. */
+    private static void allSixClosed() {
+        for (int item = 0; item < 6; item++) {
+            UtilityRebiller x = Refusals.prepared(Refusals.ALL_CLOSED);
+            int[] before = Checks.state(x);
+            int old = item == 5 ? 98 : 20 + item;
+            String call = "all closed: tariff(" + item;
+            Checks.due(call + ", 99)", x.tariff(item, 99), old);
+            Checks.due(call + ", 0)", x.tariff(item, 0), 99);
+            Checks.due(call + ", 100)", x.tariff(item, 100), UtilityRebiller.BAD_RATE);
+            Checks.due(call + ", 7)", x.tariff(item, 7), 0);
+            Checks.sameState(call + ", ...)", x, before);
         }
     }
 }
